@@ -656,7 +656,7 @@ public final class DiskEvidence {
             return i >= 0 && i < bytes.length;
         }
 
-        private boolean isLost(int sector) {
+        boolean isLost(int sector) {
             return sector < 0 || sector >= sectorCount || spoilt[sector];
         }
 
@@ -1366,7 +1366,7 @@ public final class DiskEvidence {
             int[] root = new int[form.rootBlocks];
             for (int i = 0; i < root.length; i++) root[i] = firstRoot + i;
             walkCells(root, NONE, 0);
-            for (int c = 2; form.isCluster(c); c++) {
+            for (int c = 2; c < form.clusters + 2; c++) {
                 int block = form.clusterBlock(c);
                 if (tree.ownerOf(block) == 0 && form.cell(image, c) != 0) tree.own(block, TAKEN_OWNER);
             }
@@ -1433,7 +1433,7 @@ public final class DiskEvidence {
             int first = u16(image, at + 26);
             int count = 0;
             if (form.isCluster(first) && form.cell(image, first) == 0) {
-                for (int c = first; form.isCluster(c) && count < need && count < room.length; c++) {
+                for (int c = first; c < form.clusters + 2 && count < need && count < room.length; c++) {
                     if (form.cell(image, c) == 0) room[count++] = form.clusterBlock(c);
                 }
             }
@@ -1921,7 +1921,7 @@ public final class DiskEvidence {
         /** A chain of the least free CLUSTERS; false: there are too few. */
         private boolean takeClusters(int need) {
             int count = 0;
-            for (int c = 2; form.isCluster(c) && count < need && count < taken.length; c++) {
+            for (int c = 2; c < form.clusters + 2 && count < need && count < taken.length; c++) {
                 if (form.cell(image, c) == 0) taken[count++] = form.clusterBlock(c);
             }
             for (int i = 0; i < count; i++) {
@@ -2526,7 +2526,7 @@ public final class DiskEvidence {
         int rowCount;
         private final long[] keys = new long[MOST_FILES];
         // the question as code: deeds, each behind what it works on
-        private final int[] code = new int[2 * MOST_COLLECTED];
+        private final int[] code = new int[MOST_COLLECTED];
         private int codeCount;
         private byte[] text = NO_BYTES;
         private int textLength, place;
@@ -2557,8 +2557,9 @@ public final class DiskEvidence {
             falling = nextIs('-');
             skipBlanks();
             sortField = readWord(FIELDS);
+            if (sortField < 0) return false;
             skipBlanks();
-            return sortField >= 0 && place >= textLength;
+            return place >= textLength;
         }
 
         private int next() {
@@ -2606,7 +2607,7 @@ public final class DiskEvidence {
 
         private boolean readTest(int depth) {
             if (!readAnd(depth)) return false;
-            while (nextIs('|')) {
+            for (int i = 0; i < textLength && nextIs('|'); i++) {
                 if (!readAnd(depth)) return false;
                 emit(OR);
             }
@@ -2615,7 +2616,7 @@ public final class DiskEvidence {
 
         private boolean readAnd(int depth) {
             if (!readOne(depth)) return false;
-            while (nextIs('&')) {
+            for (int i = 0; i < textLength && nextIs('&'); i++) {
                 if (!readOne(depth)) return false;
                 emit(AND);
             }
