@@ -2521,6 +2521,7 @@ public final class DiskEvidence {
         private static final int WORD_WIDTH = 8, FIELDS = 10, NAME = 10, DEEPEST_NEST = 12, MOST_DIGITS = 9, MOST_LETTERS = 20;
         private static final int AND = 1, OR = 2, NOT = 3, LETTERS = 4, COMPARE = 5;
         private static final int BLOCK_FIELD = 6;
+        private static final long BEHIND_ALL = 0x7FFFFFFFFFFFFFFFL;
 
         final int[] rows = new int[MOST_FILES];
         int rowCount;
@@ -2751,7 +2752,7 @@ public final class DiskEvidence {
             if (rowCount >= rows.length) return;
             long key = sortField < 0 ? 0 : valueOf(t, t.items[file], sortField);
             if (falling) key = -key;
-            if (sortField >= 0 && !has) key = Long.MAX_VALUE;
+            if (sortField >= 0 && !has) key = BEHIND_ALL;
             int at = rowCount++;
             while (at > 0 && keys[at - 1] > key) {
                 keys[at] = keys[at - 1];
