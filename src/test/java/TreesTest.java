@@ -413,6 +413,13 @@ public final class TreesTest {
         x.poke(0, 4 * 64, 1);
         x.mount(0);
         KIT.due("no header", Kit.faults(x, 0), "9,-1,4 ");
+        KIT.due("fault(0, 0, -1)", x.fault(0, 0, -1), -2);
+        KIT.due("fault(0, 0, 3)", x.fault(0, 0, 3), -2);
+        KIT.due("fault(0, -1, 0)", x.fault(0, -1, 0), -2);
+        KIT.due("fault(0, 1, 0)", x.fault(0, 1, 0), -2);
+        KIT.due("fault(1, 0, 0)", x.fault(1, 0, 0), -2);
+        KIT.due("free(0, -1, 0)", x.free(0, -1, 0), -2);
+        KIT.due("free(1, 0, 0)", x.free(1, 0, 0), -2);
         KIT.due("owners", Kit.owners(x, 0), "4 16 4 17 0 0 0 0 ");
         x.poke(0, 2 * 64 + 29, '6');
         seal(x, 2, false);

@@ -255,5 +255,11 @@ public final class VolumesTest {
         KIT.due("their size", x.blocks(7), 15);
         KIT.due("parity of 256", x.join(4, 3, 4, 5), 8);
         KIT.due("parity of more", x.join(4, 5, 6, 8), -3);
+        x.poke(3, 127 * 64 + 5, 9);
+        x.poke(4, 127 * 64 + 5, 8);
+        KIT.due("the last block", x.volumeByte(8, 255 * 64 + 5), 9);
+        KIT.due("the last but one", x.volumeByte(8, 254 * 64 + 5), 9);
+        KIT.due("format of 256 blocks", x.format(8, 3, 0), 0);
+        KIT.due("the last sectors", x.byteAt(3, 127 * 64 + 5) + x.byteAt(4, 127 * 64 + 5), 0);
     }
 }
