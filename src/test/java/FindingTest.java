@@ -247,6 +247,8 @@ public final class FindingTest {
         fault("kind=1 sort --size", 13);
         fault("kind=1 sort size x", 17);
         fault("kind=1 sort size sort size", 17);
+        fault("kind=1 s size", 8);
+        fault("kind=1 kind", 7);
         fault("Kind=1", 0);
         fault("kind=1\0", 6);
     }

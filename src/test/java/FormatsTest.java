@@ -132,6 +132,8 @@ public final class FormatsTest {
         KIT.due("at the page's end", opened(Formats.rows(1, tail)), "3,0,64,0,-1 30,4,64,0,0 33,62,64,58,1 left 4");
         String over = "\1\4" + "\1\1" + "\1c" + Kit.many('\7', 54);
         KIT.due("not in a row's bytes", opened(Formats.rows(1, over)), "3,0,64,0,-1 30,4,64,1,0 31,8,10,4,1 32,8,10,99,2 33,6,8,2,1 left 4");
+        String close = "\0" + "\1\1\1" + Kit.many('\7', 56);
+        KIT.due("two in a row", opened(Formats.rows(1, close)), "3,0,64,0,-1 30,4,64,0,0 33,5,7,1,1 33,7,9,3,1 left 4");
         String begun = "\1\5" + "\7\1\1\1d" + Kit.many('\7', 53);
         KIT.due("the next is looked for behind it", opened(Formats.rows(1, begun)), "3,0,64,0,-1 30,4,64,1,0 31,9,11,5,1 32,9,11,100,2 33,7,9,3,1 left 4");
     }
@@ -147,6 +149,9 @@ public final class FormatsTest {
             KIT.due("wrong page " + i, nodes.substring(0, nodes.indexOf(" 30")), "3,0,184," + answers[i] + ",-1");
         }
         KIT.due("nodes before it stay, none come of it", opened(Formats.rows(1, good, wrong[0], good)), "3,0,184,65,-1 30,4,64,1,0 31,6,7,2,1 32,6,7,0,2 left 124");
+        String[] twenty = new String[20];
+        for (int i = 0; i < 20; i++) twenty[i] = "\0";
+        KIT.due("twenty rows", opened(Formats.rows(1, Formats.page(twenty))).substring(0, 27), "3,0,64,0,-1 30,4,64,20,0 31");
         KIT.due("a row beyond the page", opened(Formats.rows(2, "\1\73" + Kit.many('\0', 58))), "3,0,64,5,-1 left 64");
         KIT.due("a row to its end", opened(Formats.rows(2, "\1\72" + Kit.many('\0', 58))).substring(0, 38), "3,0,64,0,-1 30,4,64,1,0 31,62,64,58,1 ");
     }

@@ -151,10 +151,19 @@ public final class LostTest {
         x.mount(0);
         KIT.due("any free block is one", x.field(2, 0, 5), 4);
         KIT.due("the first is so, the other none", x.field(2, 1, 5) + " " + x.block(2, 1, 1), "3 -1");
+        x.spoil(0, 12, true);
+        KIT.due("no grade is below 0", x.claimed(x.claim(1, 2, 1, 0), 0), 0);
+        x.spoil(0, 12, false);
+        x.poke(0, 192 + 5 * 32, 1);
+        Kit.poke2(x, 0, 192 + 5 * 32 + 2, 64);
+        Kit.poke4(x, 0, 192 + 5 * 32 + 12, 999);
+        Kit.poke2(x, 0, 192 + 5 * 32 + 16, 9);
+        x.mount(0);
+        KIT.due("a node of another KIND does not count", x.field(3, 0, 5), 4);
         Kit.save(x, 0, "n", "n");
         Kit.poke2(x, 0, 192 + 64 + 16, 8);
         x.mount(0);
-        KIT.due("taken by a file", Kit.names(x, 3) + x.owner(3, 8) + " " + x.field(3, 1, 5), "n #3 #4 #5 16 1");
+        KIT.due("taken by a file", Kit.names(x, 4) + x.owner(4, 8) + " " + x.field(4, 1, 5), "n #3 #4 #5 16 1");
     }
 
     private static void lostEntries() {

@@ -76,6 +76,7 @@ public final class TreesTest {
         KIT.due("its form", x.tree(0, 0), 3);
         KIT.due("its n", x.tree(0, 5), 9);
         KIT.due("its runs", x.tree(0, 8), 1);
+        KIT.due("from block 0 on", x.free(0, 0, 0) * 100 + x.free(0, 0, 1), 9);
         x.poke(0, 63, 1);
         KIT.due("none", x.mount(0), -5);
     }
@@ -340,6 +341,8 @@ public final class TreesTest {
         DiskEvidence x = Kit.disk(20);
         x.format(0, 2, 4);
         Kit.save(x, 0, "a", Kit.many('a', 100));
+        Kit.poke2(x, 0, nodeAt(1) + 30, 17);
+        Kit.poke2(x, 0, nodeAt(2) + 30, 18);
         x.poke(0, 128, 0xFD);
         x.poke(0, 129, 2 + 128);
         x.poke(0, 130, 8 + 16);
