@@ -538,8 +538,9 @@ public final class DiskEvidence {
     }
 
     private static void put16(byte[] a, int i, int v) {
-        put8(a, i, v);
-        put8(a, i + 1, v >>> 8);
+        if (i < 0 || i >= a.length - 1) return;
+        a[i] = (byte) v;
+        a[i + 1] = (byte) (v >>> 8);
     }
 
     private static void put32(byte[] a, int i, int v) {
@@ -780,21 +781,22 @@ public final class DiskEvidence {
             return i == 1 ? second : third;
         }
 
-        /** The number of the member that has a BLOCK of PARITY: the first or the second without the parity. */
-        private static int dataMember(int block) {
-            int parity = block / 2 % 3;
-            if (block % 2 == 0) return parity == 0 ? 1 : 0;
-            return parity == 2 ? 1 : 2;
-        }
-
         /** The member that has a BLOCK; null: it is missing. */
         Volume home(int block) {
-            if (kind == STRIPES) return member(block % (third == null ? 2 : 3));
-            if (kind == MIRROR) return first == null ? second : first;
-            if (kind == PARITY) return member(dataMember(block));
-            if (first == null || block < first.size) return first;
-            if (second == null || block - first.size < second.size) return second;
-            return third;
+            int i = 0;
+            if (kind == STRIPES) {
+                i = block % (third == null ? 2 : 3);
+            } else if (kind == MIRROR) {
+                i = first == null ? 1 : 0;
+            } else if (kind == PARITY) {
+                int parity = block / 2 % 3;
+                boolean even = block % 2 == 0;
+                i = even ? parity == 0 ? 1 : 0 : parity == 2 ? 1 : 2;
+            } else if (first != null && block >= first.size) {
+                i = second != null && block - first.size >= second.size ? 2 : 1;
+            }
+            if (i == 0) return first;
+            return i == 1 ? second : third;
         }
 
         /** The number that a BLOCK has in its member. */
@@ -1008,14 +1010,14 @@ public final class DiskEvidence {
         }
 
         static int placesFor(int size) {
-            return Math.min(NODE_PLACES, blocksFor(size));
+            return Math.min(NODE_PLACES, (size + SIZE - 1) / SIZE);
         }
 
         /** Where the number of a place's BLOCK stands; NONE: the BLOCK of further ones is none. */
         int placeAt(byte[] image, int at, int k) {
             if (k < OWN_PLACES) return at + 16 + 2 * k;
             int further = u16(image, at + FURTHER);
-            return isData(further) ? further * SIZE + 2 * (k - OWN_PLACES) : NONE;
+            return further >= data && further < n ? further * SIZE + 2 * (k - OWN_PLACES) : NONE;
         }
 
         /** The BLOCKS of the places of the node at a byte, NONE for one that has none; how many places. */
@@ -1683,13 +1685,13 @@ public final class DiskEvidence {
             else if (!findPlace()) answer = PATH;
             else if (deed == ERASE) answer = eraseRow();
             else answer = store(deed == FOLDER, length - contentsAt);
-            if (answer >= 0) writeChanges(v, false);
+            if (answer >= 0) writeChanges(v);
             return answer;
         }
 
-        private void writeChanges(Volume v, boolean all) {
+        private void writeChanges(Volume v) {
             for (int b = 0; b < v.size; b++) {
-                if (all || !sameBytes(image, b * SIZE, before, b * SIZE, SIZE)) writeBlock(v, b, image, b * SIZE, rooms, 0);
+                if (!sameBytes(image, b * SIZE, before, b * SIZE, SIZE)) writeBlock(v, b, image, b * SIZE, rooms, 0);
             }
         }
 
@@ -1706,7 +1708,7 @@ public final class DiskEvidence {
             moment = now;
             boolean fits = kind == TAPE || kind == CELLS && makeCells(v.size, argument) || kind == NODES && makeNodes(v.size, argument);
             if (!fits) return FORM;
-            writeChanges(v, true);
+            for (int b = 0; b < v.size; b++) writeBlock(v, b, image, b * SIZE, rooms, 0);
             return 0;
         }
 
@@ -2573,7 +2575,7 @@ public final class DiskEvidence {
 
         /** Whether a sign comes next, behind blanks; it is read then. */
         private boolean nextIs(int sign) {
-            skipBlanks();
+            while (place < textLength && text[place] == ' ') place++;
             if (place >= textLength || text[place] != sign) return false;
             place++;
             return true;
