@@ -549,7 +549,8 @@ public final class DiskEvidence {
     }
 
     private static void clear(byte[] a, int from, int n) {
-        for (int i = Math.max(0, from); i < from + n && i < a.length; i++) a[i] = 0;
+        if (from < 0 || n < 0 || n > a.length - from) return;
+        Arrays.fill(a, from, from + n, (byte) 0);
     }
 
     private static boolean sameBytes(byte[] a, int i, byte[] b, int k, int n) {
@@ -672,6 +673,11 @@ public final class DiskEvidence {
         void xorSector(int sector, byte[] into, int at) {
             if (sector < 0 || sector >= sectorCount || spoilt[sector] || at < 0 || at > into.length - SIZE) return;
             for (int i = 0; i < SIZE; i++) into[at + i] ^= bytes[sector * SIZE + i];
+        }
+
+        void copySector(int sector, byte[] into, int at) {
+            if (sector < 0 || sector >= sectorCount || spoilt[sector] || at < 0 || at > into.length - SIZE) return;
+            System.arraycopy(bytes, sector * SIZE, into, at, SIZE);
         }
 
         void storeSector(int sector, byte[] from, int at) {
@@ -812,7 +818,19 @@ public final class DiskEvidence {
 
     private static void readBlock(Volume v, int block, byte[] into, int at) {
         clear(into, at, SIZE);
-        xorBlock(v, block, into, at, 0);
+        Volume here = v;
+        int b = block;
+        for (int depth = 0; depth < MOST_VOLUMES && here != null; depth++) {
+            if (here.base != null) {
+                here.base.copySector(here.begin + b, into, at);
+                return;
+            }
+            Volume home = here.home(b);
+            if (home == null) break;
+            b = here.homeBlock(b);
+            here = home;
+        }
+        xorBlock(here, b, into, at, 0);
     }
 
     private static void xorBlock(Volume v, int block, byte[] into, int at, int depth) {

@@ -101,7 +101,7 @@ public final class LanguageTest {
         Set<String> calls = new TreeSet<>();
         Matcher m = Pattern.compile("\\b(System|Arrays|Math|Integer|Long|String|List|Character)\\.(\\w+)").matcher(source);
         while (m.find()) calls.add(m.group());
-        KIT.due("the library", calls.toString(), "[Arrays.copyOf, Arrays.copyOfRange, Math.max, Math.min, System.arraycopy]");
+        KIT.due("the library", calls.toString(), "[Arrays.copyOf, Arrays.copyOfRange, Arrays.fill, Math.max, Math.min, System.arraycopy]");
         Matcher imports = Pattern.compile("import .*").matcher(source);
         StringBuilder all = new StringBuilder();
         while (imports.find()) all.append(imports.group());
