@@ -11,7 +11,10 @@ import java.util.HashMap;
 import java.util.List;
 import java.util.Map;
 
-/** Runs under src/test/runs: a call a line, and the answer that a second writing of the document gave. */
+/**
+ * Runs under src/test/runs: a call a line, and the answer that a second writing of the document gave.
+ * With the argument "rewrite" the answers of the class as it is now are written there instead: look at the difference.
+ */
 public final class RecordedRunsTest {
     private static final Kit KIT = new Kit("RecordedRuns");
 
@@ -25,13 +28,19 @@ public final class RecordedRunsTest {
             files.forEach(runs::add);
         }
         Collections.sort(runs);
-        for (Path run : runs) replay(run, calls);
+        boolean rewrite = args.length > 0 && args[0].equals("rewrite");
+        for (Path run : runs) {
+            List<String> answered = replay(run, calls);
+            if (rewrite) Files.write(run, answered);
+        }
         KIT.due("runs", runs.isEmpty() ? 0 : 1, 1);
         KIT.finish();
     }
 
-    private static void replay(Path run, Map<String, Method> calls) throws IOException, IllegalAccessException, InvocationTargetException {
+    /** The lines of a run with the answers that the class gives. */
+    private static List<String> replay(Path run, Map<String, Method> calls) throws IOException, IllegalAccessException, InvocationTargetException {
         DiskEvidence x = new DiskEvidence();
+        List<String> answered = new ArrayList<>();
         int number = 0;
         for (String line : Files.readAllLines(run)) {
             number++;
@@ -47,6 +56,8 @@ public final class RecordedRunsTest {
             }
             long answer = ((Number) call.invoke(x, values)).longValue();
             KIT.due(run.getFileName() + " " + number + " " + line, answer, Long.parseLong(words[words.length - 1]));
+            answered.add(line.substring(0, line.lastIndexOf(' ') + 1) + answer);
         }
+        return answered;
     }
 }
