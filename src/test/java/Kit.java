@@ -3,23 +3,32 @@ final class Kit {
     private final String title;
     private int wrong;
     private int asked;
+    private String sentence = "";
 
     Kit(String title) {
         this.title = title;
+    }
+
+    /** The sentence of the document that the answers from here on are due by. */
+    void says(String words) {
+        sentence = " (" + words + ")";
+        if (Document.has(words)) return;
+        wrong++;
+        System.out.println(title + ": the document does not say: " + words);
     }
 
     void due(String call, long got, long want) {
         asked++;
         if (got == want) return;
         wrong++;
-        System.out.println(title + ": " + call + " answered " + got + ", due is " + want);
+        System.out.println(title + ": " + call + " answered " + got + ", due is " + want + sentence);
     }
 
     void due(String call, String got, String want) {
         asked++;
         if (got.equals(want)) return;
         wrong++;
-        System.out.println(title + ": " + call + " answered \"" + got + "\", due is \"" + want + "\"");
+        System.out.println(title + ": " + call + " answered \"" + got + "\", due is \"" + want + "\"" + sentence);
     }
 
     void finish() {
