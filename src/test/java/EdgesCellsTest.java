@@ -178,6 +178,11 @@ public final class EdgesCellsTest {
         KIT.due("sizes", x.number(128 + 28, 4) + " " + x.number(160 + 28, 4) + " " + x.number(192 + 28, 4), "0 0 1");
         KIT.due("a byte 0 alone", x.put("\0").save(0), -4);
         KIT.due("nothing", x.save(0), -4);
+        x.put("EFGH\0xxxxxxxxxxxxxxxx");
+        x.forget();
+        KIT.due("without a byte 0, where more was collected", x.put("E").save(0), 0);
+        KIT.due("its ROW", x.bytes(128 + 96, 11) + x.number(128 + 96 + 28, 4), "E          0");
+        x.erased(0, "E");
         KIT.due("all signs", x.put("D\0" + "\u00ff/\0").save(0), 1);
         KIT.due("as they were", x.bytes(5 * 64, 4), "\u00ff/\0\0");
     }

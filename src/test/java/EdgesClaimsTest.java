@@ -329,12 +329,15 @@ public final class EdgesClaimsTest {
         Desk x = new Desk();
         x.add(new Image(3).entry(0, "x", '0', 1, 0).text(64, "x"));
         x.add(files());
+        x.format(0, 3, 0);
         x.mount(0);
         x.mount(1);
+        x.saved(0, "x", "x");
         x.mount(0);
         KIT.due("of TREE 1", x.claim(1, 5, 3, 0), 0);
         KIT.due("of TREE 2", x.claim(2, 0, 2, 'x'), 1);
-        KIT.due("of TREE 0", x.claim(0, 0, 1, crc("x")), 2);
+        KIT.due("of TREE 0, that has none", x.claim(0, 0, 1, crc("x")), -2);
+        KIT.due("of TREE 2, too", x.claim(2, 0, 1, crc("x")), 2);
         StringBuilder s = new StringBuilder();
         for (int i = 0; i < 3; i++) for (int what = 0; what < 5; what++) s.append(x.claimed(i, what)).append(' ');
         KIT.due("claimed", s.toString(), "4 3 5 0 1 5 2 0 120 0 5 1 0 " + crc("x") + " 0 ");
@@ -343,7 +346,7 @@ public final class EdgesClaimsTest {
         KIT.due("of its VOLUME", x.check(0) + " " + x.check(1), "0 1");
         x.poke(0, 64, 'z');
         KIT.due("of its VOLUME, too", x.check(1) + " " + x.check(2), "0 0");
-        x.spoil(0, 8 % 3, true);
+        x.spoil(0, 2, true);
         KIT.due("SECTORS of its VOLUME", x.claimed(x.claim(1, 0, 1, 0), 0), 5);
         x.spoil(1, 8, true);
         KIT.due("SECTORS of its VOLUME, too", x.claimed(x.claim(1, 0, 1, 0), 0), 4);

@@ -327,6 +327,17 @@ public final class EdgesFindingTest {
         KIT.due("the word w", x.worded(0, "w") + inFile(x), "42+1 5+1 ");
         KIT.due("[x]", x.patterned(0, "[x]"), 0);
         KIT.due("u", x.patterned(0, "u"), 4);
+        KIT.due("u?v*", x.patterned(0, "u?v*"), 4);
+        KIT.due("uw: no ATOM of it may be left out", x.patterned(0, "uw"), 0);
+        KIT.due("[0 and 255]", x.patterned(0, "[\0\u00ff]*") > 0 ? 1 : 0, 1);
+        KIT.due("u has no other bytes", x.patterned(0, "u"), 4);
+        Desk y = with("wwx");
+        y.put("w*************");
+        y.forget();
+        KIT.due("w, where w* was collected", y.patterned(0, "w") + inFile(y), "40+1 1+1 ");
+        y.put("[w]***");
+        y.forget();
+        KIT.due("[w], where a star was", y.patterned(0, "[w]") + inFile(y), "40+1 1+1 ");
     }
 
     private static void patternsInTheSameOrder() {

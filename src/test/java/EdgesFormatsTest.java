@@ -290,6 +290,7 @@ public final class EdgesFormatsTest {
             KIT.due("byte " + i + " is another: the CRC", x.node(0, 3, 3), i >= 13 && i < 17 ? 1 : 0);
             KIT.due("byte " + i + " is another: no FAULT", x.node(0, 0, 3), 0);
         }
+        KIT.due("the second one's", opened(Formats.pack("a", "b", "cde", "")).split(" ")[5], "21,22,25,3,4");
         KIT.due("the CRC of no bytes", opened(Formats.pack("a", "")).split(" ")[3], "22,16,16,1,1");
     }
 
@@ -598,6 +599,10 @@ public final class EdgesFormatsTest {
         KIT.due("its GRADE, parent, depth", x.field(0, 6, 5) + " " + x.field(0, 6, 6) + " " + x.field(0, 6, 8), "3 2 1");
         KIT.due("of one CUT OUT", x.inside(2, 3), 7);
         KIT.due("its GRADE, parent, depth, too", x.field(0, 7, 5) + " " + x.field(0, 7, 6) + " " + x.field(0, 7, 8), "2 3 1");
+        Image l = Image.cells(20, 1, 1, 1, 0).root(0, "\u00e5", 0, 2, 7 + 24).text(3 * 64, Formats.pack("a", ""));
+        Desk y = Desk.mounted(l);
+        y.open(0, 0);
+        KIT.due("of a LOST one, where none live", y.inside(0, 3) + " " + y.names(0), "2 ? @3 a ");
         KIT.due("it is not found", x.found(0, "D/P/q/\0") + " " + x.found(0, "D/P/z"), "-1 -1");
     }
 

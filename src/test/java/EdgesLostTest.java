@@ -217,6 +217,7 @@ public final class EdgesLostTest {
         KIT.due("another BLOCK", grades(5, 6, 11), "4 4");
         KIT.due("later, above the greatest int", grades(0x7FFFFFFFL, 0x80000000L, 9), "1 4");
         KIT.due("earlier, though below 0 as an int", grades(0xFFFFFFFFL, 1, 9), "4 1");
+        KIT.due("later, at a moment that looks like a place", grades(5, 0x00090009, 11), "4 4");
     }
 
     private static void nodesOtherSuchNodes() {

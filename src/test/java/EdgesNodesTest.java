@@ -203,6 +203,13 @@ public final class EdgesNodesTest {
             KIT.due("folder " + name, x.foldered(0, name), -4);
             KIT.due("erase " + name, x.erased(0, name), -4);
         }
+        Desk old = disk();
+        old.put("zzzzzzzzzzzzzzzzzzzz");
+        old.forget();
+        KIT.due("a folder, where longer ones were collected", old.foldered(0, "d"), 0);
+        KIT.due("a file, too", old.put("e").save(0), 0);
+        KIT.due("their ROWS", old.bytes(7 * 64, 34), "\2\0d" + Kit.many('\0', 13) + "\3\0e" + Kit.many('\0', 15));
+        KIT.due("erase, too", old.erased(0, "e"), 0);
         Desk x = disk();
         KIT.due("a byte 0 in a folder's path", x.foldered(0, "d\0"), -4);
         x.foldered(0, "d");

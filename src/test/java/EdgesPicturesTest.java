@@ -232,6 +232,13 @@ public final class EdgesPicturesTest {
             KIT.due("the first " + n + " bytes", packed(whole.substring(0, n)), -100 - n);
         }
         KIT.due("all of it", packed(whole), 0);
+        for (int n = 0; n < 12; n++) {
+            Desk x = new Desk();
+            x.put(Kit.many('\u00ff', 40));
+            x.forget();
+            x.put(whole.substring(0, n));
+            KIT.due("the first " + n + " bytes, where others were", x.picture(), -100 - n);
+        }
     }
 
     private static void packedCrc() {

@@ -59,6 +59,9 @@ public final class EdgesQuestionsTest {
         x.put(question + "=1|kind=1&&&&''''((((sort size 99999");
         x.forget();
         KIT.due("QUESTION where a longer one was: " + question, x.asked(0, question), -100 - at);
+        x.put(question + "     ");
+        x.forget();
+        KIT.due("QUESTION where blanks were behind it: " + question, x.asked(0, question), -100 - at);
     }
 
     private static void operators() {

@@ -34,6 +34,7 @@ public final class EdgesVolumesTest {
         parityAsItWasReadBefore();
         parityWithoutAMember();
         parityWithinParity();
+        elevenDeep();
         sectorsInSeveralVolumes();
         KIT.finish();
     }
@@ -550,6 +551,26 @@ public final class EdgesVolumesTest {
                 KIT.due("rows " + q + " are whole", within + " " + outer, "0 0");
             }
         }
+    }
+
+    private static void elevenDeep() {
+        KIT.says("JOINED ones are of earlier VOLUMES, their members");
+        Desk x = new Desk();
+        x.blank(8);
+        x.blank(8);
+        x.volume(0, 0, 8);
+        x.volume(1, 0, 8);
+        x.join(4, 0, -1, 1);
+        for (int v = 3; v < 12; v++) KIT.due("VOLUME " + v, x.join(3, v % 2 == 0 ? -1 : v - 1, v % 2 == 0 ? v - 1 : -1, -1), v);
+        KIT.due("where", places(x, 11), places(x, 2));
+        KIT.due("BLOCKS", x.blocks(11), 16);
+        KIT.due("save", x.saved(11, "a", Kit.many('b', 64) + Kit.many('c', 64)), 2);
+        KIT.due("read", x.volumeByte(11, 0) + " " + x.volumeByte(11, 64) + " " + x.volumeByte(11, 128), "97 98 99");
+        KIT.due("row 0: reckoned, b and the parity", x.where(11, 0) + " " + x.byteAt(1, 0) + " " + x.byteAt(0, 0), "-1 98 " + ('a' ^ 'b'));
+        x.mount(11);
+        KIT.due("its FILE", x.names(0) + x.blocksOf(0, 0), "a 1 2 ");
+        x.spoil(1, 0, true);
+        KIT.due("a SECTOR that is read", x.claimed(x.claim(0, 0, 1, 0), 0), 4);
     }
 
     private static void sectorsInSeveralVolumes() {

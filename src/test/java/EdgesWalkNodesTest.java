@@ -87,6 +87,9 @@ public final class EdgesWalkNodesTest {
         KIT.due("the root's BLOCKS, and that of further ones", y.owners(0, 6, 13), "1 1 1 1 1 1 0 ");
         KIT.due("the BLOCK of further ones is none", Desk.mounted(f.further(1, 30)).tree(0, 1), 0);
         KIT.due("it is no FAULT of the root's", Desk.mounted(f).faults(0), "12,-1,9 12,-1,10 12,-1,11 ");
+        Image r = image().node(1, 2, 65535, 7, 8, 8, 8, 8, 8, 8).further(1, 10).takes(8, 10).node(2, 1, 0).named(7, 0, 2, "first").named(9, 3, 2, "last").takes(9);
+        for (int k = 0; k < 32; k++) r.b2(10 * 64 + 2 * k, k < 31 ? 8 : 9);
+        KIT.due("of 39 places the last", Desk.mounted(r).names(0) + Desk.mounted(r).faults(0), "first last ");
         Desk z = Desk.mounted(image().node(1, 2, 448, 7, 7, 7, 7, 7, 7, 7).further(1, 12));
         KIT.due("of seven places there is none", z.owner(0, 12), 0);
         Desk w = Desk.mounted(image().node(1, 2, 449, 7, 7, 7, 7, 7, 7, 7).further(1, 12).takes(12));
@@ -190,6 +193,8 @@ public final class EdgesWalkNodesTest {
         Desk y = Desk.mounted(m.further(2, 27).takes(27).b2(27 * 64, 9).takes(9).b2(27 * 64 + 2, 28).b2(27 * 64 + 4, 6));
         KIT.due("the last BLOCK, and places that are none", y.faults(0), "2,0,28 2,0,6 ");
         KIT.due("it is the FILE'S", y.owner(0, 27) + " " + y.blocksOf(0, 0), "16 8 8 8 8 8 8 8 9 -1 -1 ");
+        Image d = image().node(1, 2, 64, 9).takes(9).named(9, 0, 2, "a").node(2, 1, 512, 8, 8, 8, 8, 8, 8, 8).further(2, 7).b2(7 * 64, 10).takes(8, 10);
+        KIT.due("the first DATA BLOCK", Desk.mounted(d).faults(0) + Desk.mounted(d).block(0, 0, 7), "10");
         Desk z = Desk.mounted(m.further(2, 6).b2(nodeAt(2) + 2, 448));
         KIT.due("seven places need none", z.faults(0), "12,-1,9 12,-1,27 ");
         Desk w = Desk.mounted(m.b2(nodeAt(2) + 2, 449));
@@ -252,6 +257,8 @@ public final class EdgesWalkNodesTest {
         Desk x = Desk.mounted(m);
         KIT.due("its own are none", x.faults(0), "");
         KIT.due("places", x.blocksOf(0, 0), "8 9 8 9 9 9 8 8 ");
+        Image o = image().named(7, 0, 3, "a").named(7, 1, 2, "b").node(3, 1, 0).node(2, 1, 512, 8, 9, 8, 9, 9, 9, 8).further(2, 8).takes(8, 9).b2(8 * 64, 8);
+        KIT.due("of FILE 1, too", Desk.mounted(o).faults(0) + Desk.mounted(o).owners(0, 8, 10), "17 17 ");
         Image n = m.named(7, 1, 3, "b").node(3, 1, 128, 8, 8);
         KIT.due("twice of an earlier one", Desk.mounted(n).faults(0), "5,1,8 5,1,8 ");
     }

@@ -245,6 +245,7 @@ public final class EdgesWalkTest {
         KIT.due("CELL 31", Desk.mounted(m.cellIn(1, 31, 1)).faults(0), "1,-1,1 1,-1,1 ");
         KIT.due("CELL 32", Desk.mounted(m.cellIn(1, 32, 256)).faults(0), "1,-1,1 1,-1,1 1,-1,2 ");
         KIT.due("CELL 55, the last CLUSTER", Desk.mounted(m.cellIn(0, 55, 9)).faults(0), "1,-1,1 1,-1,1 1,-1,2 1,-1,2 ");
+        KIT.due("behind the last CLUSTER there are no CELLS", Desk.mounted(m.cellIn(0, 56, 9).cellIn(1, 63, 9)).tree(0, 4), 4);
         Desk x = Desk.mounted(Image.cells(20, 2, 1, 1, 0).root(0, "A", 0, 2, 64).cellIn(0, 2, 0xFFFF).cellIn(1, 2, 3).cellIn(1, 4, 9));
         KIT.due("the first one counts", x.faults(0) + x.blocksOf(0, 0) + x.owners(0, 4, 7), "1,-1,1 1,-1,1 4 16 0 0 ");
         KIT.due("one TABLE", Desk.mounted(Image.cells(20, 1, 2, 1, 0).b2(128, 9)).faults(0), "");
