@@ -329,8 +329,9 @@ public final class EdgesFindingTest {
         KIT.due("u", x.patterned(0, "u"), 4);
         KIT.due("u?v*", x.patterned(0, "u?v*"), 4);
         KIT.due("uw: no ATOM of it may be left out", x.patterned(0, "uw"), 0);
-        KIT.due("[0 and 255]", x.patterned(0, "[\0\u00ff]*") > 0 ? 1 : 0, 1);
-        KIT.due("u has no other bytes", x.patterned(0, "u"), 4);
+        Desk z = with("u\0\u00ffv");
+        KIT.due("[0 and 255]", z.patterned(0, "[\0\u00ff]") + inFile(z).substring(0, 8), z.count(5) + "1+1 2+1 ");
+        KIT.due("u has no other bytes", z.patterned(0, "u") + inFile(z), "20+1 ");
         Desk y = with("wwx");
         y.put("w*************");
         y.forget();

@@ -599,10 +599,10 @@ public final class EdgesFormatsTest {
         KIT.due("its GRADE, parent, depth", x.field(0, 6, 5) + " " + x.field(0, 6, 6) + " " + x.field(0, 6, 8), "3 2 1");
         KIT.due("of one CUT OUT", x.inside(2, 3), 7);
         KIT.due("its GRADE, parent, depth, too", x.field(0, 7, 5) + " " + x.field(0, 7, 6) + " " + x.field(0, 7, 8), "2 3 1");
-        Image l = Image.cells(20, 1, 1, 1, 0).root(0, "\u00e5", 0, 2, 7 + 24).text(3 * 64, Formats.pack("a", ""));
+        Image l = Image.cells(20, 1, 1, 1, 0).root(0, "\u00e5", 0, 2, 17).text(3 * 64, Formats.entry("a", "1", 5));
         Desk y = Desk.mounted(l);
         y.open(0, 0);
-        KIT.due("of a LOST one, where none live", y.inside(0, 3) + " " + y.names(0), "2 ? @3 a ");
+        KIT.due("of a LOST one, where none live and none is CUT OUT", y.inside(0, 3) + " " + y.names(0), "1 ? a ");
         KIT.due("it is not found", x.found(0, "D/P/q/\0") + " " + x.found(0, "D/P/z"), "-1 -1");
     }
 

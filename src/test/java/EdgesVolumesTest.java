@@ -35,6 +35,7 @@ public final class EdgesVolumesTest {
         parityWithoutAMember();
         parityWithinParity();
         elevenDeep();
+        linesElevenDeep();
         sectorsInSeveralVolumes();
         KIT.finish();
     }
@@ -571,6 +572,28 @@ public final class EdgesVolumesTest {
         KIT.due("its FILE", x.names(0) + x.blocksOf(0, 0), "a 1 2 ");
         x.spoil(1, 0, true);
         KIT.due("a SECTOR that is read", x.claimed(x.claim(0, 0, 1, 0), 0), 4);
+    }
+
+    private static void linesElevenDeep() {
+        KIT.says("JOINED ones are of earlier VOLUMES, their members");
+        Desk x = new Desk();
+        x.blank(4);
+        x.blank(1);
+        x.volume(0, 0, 4);
+        x.volume(1, 0, 1);
+        for (int v = 2; v < 11; v++) KIT.due("VOLUME " + v, x.join(v % 2 == 0 ? 1 : 2, v - 1 == 1 ? 0 : v - 1, 1, -1), v);
+        KIT.due("BLOCKS of the ninth", x.blocks(10), 3);
+        KIT.due("its BLOCKS", places(x, 10), "0 1000 1000 ");
+        KIT.due("PARITY of it, one is missing", x.join(4, 10, -1, 1), 11);
+        x.poke(0, 0, 'a');
+        x.poke(1, 0, 'c');
+        KIT.due("reckoned", x.volumeByte(11, 0), 'a' ^ 'c');
+        x.poke(0, 0, 0);
+        x.poke(1, 0, 0);
+        KIT.due("save", x.saved(10, "f", ""), 0);
+        KIT.due("it is there", x.byteAt(0, 0), 'f');
+        x.mount(10);
+        KIT.due("its FILE", x.names(0), "f ");
     }
 
     private static void sectorsInSeveralVolumes() {
