@@ -44,8 +44,7 @@ public final class CellsMakerTest {
     }
 
     private static void formatted() {
-        DiskEvidence x = Kit.disk(20);
-        for (int i = 0; i < 1280; i++) x.poke(0, i, 99);
+        DiskEvidence x = Kit.disk(20, 99);
         KIT.due("format", x.format(0, 1, 8 * 40 + 2 * 2 + 1), 0);
         KIT.due("its head", text(x, 0, 8), "CF\2\1\24\0\3\u00f8");
         KIT.due("its last bytes", text(x, 60, 4), "\0\0\u0055\u00aa");

@@ -115,22 +115,22 @@ public final class EdgesRefusedTest {
 
     private static void numbersFarOut() throws ReflectiveOperationException {
         KIT.says("or out of what is told; nothing is done then");
-        DiskEvidence x = full();
-        String before = all(x);
         Map<String, Method> methods = methods();
         long[] far = {MAX, MIN, MAX - 1, 1L << 24, -1L << 24, 65536, 1 << 30};
-        for (String call : CALLS) {
-            String[] words = call.split(" ");
-            for (int i = 1; i < words.length; i++) {
-                if (words[i].indexOf('/') < 0) continue;
-                for (long number : far) {
+        for (long number : far) {
+            DiskEvidence x = full();
+            String before = all(x);
+            for (String call : CALLS) {
+                String[] words = call.split(" ");
+                for (int i = 1; i < words.length; i++) {
+                    if (words[i].indexOf('/') < 0) continue;
                     long[] numbers = good(words);
                     numbers[i - 1] = number;
                     KIT.due(call + ", number " + i + " is " + number, ask(x, methods.get(words[0]), numbers), -2);
                 }
             }
+            KIT.due("nothing is done", all(x), before);
         }
-        KIT.due("nothing is done", all(x), before);
     }
 
     private static void kindsThatAreNone() {

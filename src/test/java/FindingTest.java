@@ -184,6 +184,7 @@ public final class FindingTest {
     }
 
     private static void missingFields() {
+        prepare();
         KIT.due("made of 0 is none", rows("made<1|made>0|made#5"), "0 1 2 4 ");
         KIT.due("no moment", rows("erased#7"), "");
         KIT.due("its opposite", rows("!erased#7"), "0 1 2 3 4 ");
@@ -192,6 +193,7 @@ public final class FindingTest {
     }
 
     private static void orders() {
+        prepare();
         KIT.due("sort size", rows("size<1000 sort size"), "3 2 1 4 0 ");
         KIT.due("sort -size", rows("size<1000 sort -size"), "0 4 1 2 3 ");
         KIT.due("of the same by numbers", rows("size<1000 sort - kind"), "1 0 2 3 4 ");
@@ -203,11 +205,13 @@ public final class FindingTest {
     }
 
     private static void fault(String question, int at) {
+        prepare();
         KIT.due("question " + question, Kit.question(asked, 0, question), -100 - at);
         KIT.due("COLLECTED", asked.count(0), 0);
     }
 
     private static void questionFaults() {
+        prepare();
         fault("", 0);
         fault("   ", 3);
         fault("x=1", 0);
@@ -254,6 +258,7 @@ public final class FindingTest {
     }
 
     private static void nests() {
+        prepare();
         KIT.due("12 (", rows(Kit.many('(', 12) + "kind=2" + Kit.many(')', 12)), "1 ");
         fault(Kit.many('(', 13) + "kind=2" + Kit.many(')', 13), 12);
         KIT.due("12 !", rows(Kit.many('!', 12) + "kind=2"), "1 ");
@@ -263,6 +268,7 @@ public final class FindingTest {
     }
 
     private static void latestRows() {
+        prepare();
         rows("kind=2");
         rows("kind=");
         KIT.due("of the latest that was good", Kit.rows(asked), "1 ");

@@ -172,13 +172,10 @@ public final class FormatsTest {
     }
 
     private static void firstBytes() {
-        DiskEvidence x = Kit.disk(100);
-        x.format(0, 3, 0);
-        Kit.save(x, 0, "f", Formats.chunks(Formats.chunk("abcd", Kit.many('x', 3950)), Formats.chunk("IEND", "")));
-        for (int i = 0; i < 7; i++) x.poke(0, 25 + i, "0010001".charAt(i));
-        int sum = 7 * 32;
-        for (int i = 0; i < 64; i++) if (i < 44 || i > 50) sum += x.byteAt(0, i);
-        for (int i = 0; i < 7; i++) x.poke(0, 44 + i, '0' + (sum >> 3 * (6 - i) & 7));
+        DiskEvidence x = new DiskEvidence();
+        Kit.text(x, new Image(100).entry(0, "f", '0', 4097, 0).fill(64, 4097, 'x').text(64, "PK").packed());
+        x.picture();
+        x.volume(0, 0, 100);
         x.mount(0);
         KIT.due("a file of 4097 bytes", x.field(0, 0, 1), 4097);
         x.open(0, 0);

@@ -115,6 +115,15 @@ final class Kit {
         return x;
     }
 
+    /** A picture of so many sectors, full of a byte, that is one volume. */
+    static DiskEvidence disk(int sectors, int full) {
+        DiskEvidence x = new DiskEvidence();
+        text(x, new Image(sectors).fill(0, 64 * sectors, full).packed());
+        x.picture();
+        x.volume(0, 0, sectors);
+        return x;
+    }
+
     static String name(DiskEvidence x, int tree, int file) {
         StringBuilder name = new StringBuilder();
         for (int k = 0; x.name(tree, file, k) >= 0; k++) name.append((char) x.name(tree, file, k));

@@ -116,7 +116,7 @@ public final class LostTest {
         KIT.due("a folder is a file then", Kit.fields(x, 0, 1), "1 64 100 100 120 4 -1 1 0 0 64 ");
         KIT.due("e", Kit.fields(x, 0, 2), "1 3 100 100 120 4 -1 1 0 0 3 ");
         KIT.due("blocks", Kit.blocks(x, 0, 0), "12 13 14 15 16 17 18 20 ");
-        KIT.due("content", Kit.content(x, 0, 0), Kit.many('f', 512));
+        KIT.due("content", x.content(0, 0, 0) + " " + x.content(0, 0, 511) + " " + x.content(0, 0, 512), "102 102 -1");
         Kit.poke4(x, 0, 192 + 32 + 12, 0);
         Kit.poke4(x, 0, 192 + 64 + 12, 0xFFFFFFFFL);
         Kit.poke2(x, 0, 192 + 96 + 2, 3000);

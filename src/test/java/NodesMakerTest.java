@@ -53,8 +53,7 @@ public final class NodesMakerTest {
     }
 
     private static void formatted() {
-        DiskEvidence x = Kit.disk(20);
-        for (int i = 0; i < 1280; i++) x.poke(0, i, 99);
+        DiskEvidence x = Kit.disk(20, 99);
         x.tick(70);
         KIT.due("argument 0", x.format(0, 2, 0), -2);
         KIT.due("argument 33", x.format(0, 2, 33), -2);
@@ -119,9 +118,11 @@ public final class NodesMakerTest {
         DiskEvidence y = Kit.disk(60);
         y.format(0, 2, 4);
         KIT.due("39 blocks", Kit.save(y, 0, "a", Kit.many('a', 39 * 64)), 39);
-        KIT.due("40 blocks", Kit.save(y, 0, "a", Kit.many('a', 39 * 64 + 1)), -3);
-        KIT.due("40 blocks of a new one", Kit.save(y, 0, "b", Kit.many('a', 39 * 64 + 1)), -3);
-        KIT.due("none came", b4(y, 64), 7);
+        DiskEvidence z = Kit.disk(60);
+        z.format(0, 2, 4);
+        Kit.save(z, 0, "a", "a");
+        KIT.due("40 blocks", Kit.save(z, 0, "a", Kit.many('a', 39 * 64 + 1)), -3);
+        KIT.due("none came", b4(z, 64), 7);
     }
 
     private static void folders() {

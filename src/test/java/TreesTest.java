@@ -302,7 +302,7 @@ public final class TreesTest {
         KIT.due("b", Kit.fields(x, 0, 2), "1 1 51 51 0 5 1 1 1 0 1 ");
         KIT.due("owners", Kit.owners(x, 0), "1 1 1 1 1 1 1 1 16 16 16 16 16 16 16 16 16 0 17 18 0 0 0 0 0 0 0 0 0 0 ");
         KIT.due("blocks of a", Kit.blocks(x, 0, 0), "8 9 10 11 12 13 14 16 ");
-        KIT.due("content", Kit.content(x, 0, 0), Kit.many('a', 449));
+        KIT.due("content", x.content(0, 0, 0) + " " + x.content(0, 0, 448) + " " + x.content(0, 0, 449), "97 97 -1");
     }
 
     private static int nodeAt(int node) {

@@ -134,8 +134,10 @@ public final class VolumesTest {
         DiskEvidence x = new DiskEvidence();
         int[] sizes = {4, 6, 5};
         for (int p = 0; p < 3; p++) {
-            x.blank(sizes[p]);
-            for (int i = 0; i < 64 * sizes[p]; i++) x.poke(p, i, 16 * (p + 1) + i / 64);
+            Image m = new Image(sizes[p]);
+            for (int i = 0; i < sizes[p]; i++) m.fill(64 * i, 64, 16 * (p + 1) + i);
+            Kit.text(x, m.packed());
+            x.picture();
             x.volume(p, 0, sizes[p]);
         }
         return x;
