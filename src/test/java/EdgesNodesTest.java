@@ -31,6 +31,7 @@ public final class EdgesNodesTest {
         foldersOf0s();
         foldersGrow();
         foldersGrowBehindSevenPlaces();
+        foldersGrowIntoTheirFurtherOnes();
         foldersOf39Places();
         rowsWhoseNodeIsOne();
         placesLeftOut();
@@ -509,6 +510,17 @@ public final class EdgesNodesTest {
         KIT.due("places", places(z, 1), "5 6 7 8 9 10 11 12 ");
         KIT.due("the BLOCK of further ones, too", z.bytes(12 * 64, 4), "\15\0\16\0");
         KIT.due("the ROW, too", z.bytes(14 * 64, 4), "\3\0n\0");
+    }
+
+    /** The map has not the BLOCK of further ones: it is the least that is free, all 0s, and then the sixteenth place in itself. */
+    private static void foldersGrowIntoTheirFurtherOnes() {
+        KIT.says("without one the folder gets a BLOCK of 0s more, before the file's");
+        Image m = rootOf(15, 15 * 64);
+        m.a[128 + 12 / 8] &= ~(1 << 12 % 8);
+        Desk x = Desk.of(m);
+        KIT.due("a sixteenth place", x.saved(0, "n", ""), 0);
+        KIT.due("the ROW first, then the place", x.bytes(12 * 64, 64), "\3\0n" + Kit.many('\0', 13) + "\14" + Kit.many('\0', 47));
+        KIT.due("the size", x.number(nodeAt(1) + 2, 2), 1024);
     }
 
     private static void foldersOf39Places() {
